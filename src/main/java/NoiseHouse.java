@@ -1503,7 +1503,10 @@ public final class NoiseHouse {
                 if (parts > 0) {
                     will.addCode(Will.PLUS);
                 }
-                more = text.takesSign('+');
+                more = text.isSign('+');
+                if (more) {
+                    text.step();
+                }
             }
         }
 

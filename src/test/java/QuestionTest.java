@@ -42,6 +42,10 @@ public final class QuestionTest {
         CHECK.due("odds of 2, 9 off", 10000, x.odds(2, 2, 69));
         CHECK.due("odds of 2, 10 off", 0, x.odds(2, 2, 70));
         CHECK.due("odds without any", 0, x.odds(0, 0, 99));
+        x.oil(4, 49);
+        CHECK.due("odds of the least weight", 10000, x.odds(4, 3, 31));
+        CHECK.due("the likeliest of it", 4, x.likeliest(3, 31));
+        x.undo();
         x.oil(3, 33);
         CHECK.due("odds of 0, another oiled", 10000 * 240 / 331, x.odds(0, 0, 22));
         for (int pitch : new int[] {-1, 100, LEAST, MOST}) {
@@ -103,6 +107,7 @@ public final class QuestionTest {
         CHECK.due("all that are heard there", 15, x.quiet(0, 0, 200));
         CHECK.due("another room", 16, x.quiet(3, 49, 1));
         CHECK.due("another room's own", 0, x.quiet(3, 50, 1));
+        CHECK.due("the greatest target", 0, x.quiet(0, 999, 1));
         for (int target : new int[] {-1, 1000, LEAST, MOST}) {
             CHECK.illegal("quiet of target " + target, () -> x.quiet(0, target, 1));
             CHECK.outOfBounds("quiet in no room", () -> x.quiet(4, target, 1));
@@ -264,6 +269,8 @@ public final class QuestionTest {
         CHECK.due("of the only one", 100, x.ears(1, 2));
         CHECK.house(x, "heir in 0 ear 1");
         CHECK.due("rounded down", 100 * 30 / 80, x.ears(0, 0));
+        x.oil(0, 29);
+        CHECK.due("the least to be heard, by the only one", 100, x.ears(2, 0));
         for (int one : new int[] {-1, 5, LEAST, MOST}) {
             CHECK.outOfBounds("ears of heir " + one, () -> x.ears(one, 0));
             CHECK.outOfBounds("ears of noise " + one, () -> x.ears(0, one));
@@ -289,13 +296,13 @@ public final class QuestionTest {
             CHECK.outOfBounds("seat(" + heir + ")", () -> x.seat(heir));
         }
         NoiseHouse y = new NoiseHouse();
-        CHECK.house(y, "room 0;room 0;heir in 0 ear 9;heir in 0 ear 9;noise beast 1 in 0 pitch 1 loud 9 worth 1;noise clock 0 in 1 pitch 1 loud 9 worth 1;"
-            + "noise beast 1 in 0 pitch 1 loud 9 worth 1;noise beast 1 in 0 pitch 1 loud 9 worth 1;noise beast 1 in 0 pitch 1 loud 9 worth 1;"
-            + "noise beast 1 in 0 pitch 1 loud 9 worth 1");
+        CHECK.house(y, "room 0;room 0;heir in 0 ear 9;heir in 0 ear 9;noise clock 0 in 0 pitch 1 loud 9 worth 1;noise beast 1 in 1 pitch 1 loud 9 worth 1;"
+            + "noise beast 1 in 1 pitch 1 loud 9 worth 1;noise beast 1 in 1 pitch 1 loud 9 worth 1;noise beast 1 in 1 pitch 1 loud 9 worth 1;"
+            + "noise beast 1 in 1 pitch 1 loud 9 worth 1");
         CHECK.will(y, "to 0 part 41 if beast;to 1 part 7 if beast;to 0 part 1 if clock", 3);
-        // 24 times 41 by 48 is 20.5: five of 20 are not more than 100; 5 of 20.5 are
+        // 24 times 41 by 48 is 20.5: five of 20 are not more than the clock's 100, five of 20.5 were
         CHECK.due("rounded down for each", 0, y.seat(0));
-        CHECK.house(y, "noise foot in 1 pitch 1 loud 9 worth 1;noise beast 1 in 1 pitch 1 loud 9 worth 1");
+        CHECK.house(y, "noise beast 1 in 1 pitch 1 loud 9 worth 1");
         CHECK.due("more in 1", 1, y.seat(0));
     }
 

@@ -107,7 +107,14 @@ public final class TapeTest {
         CHECK.due("clock1 2", 6, x.noise(0, 6));
         CHECK.due("loud4", 4, x.noise(0, 3));
         CHECK.due("worth 05", 5, x.noise(0, 4));
+        CHECK.house(x, "noise clock 23 0 in 0 pitch 1 loud 1 worth 1");
+        CHECK.due("clock 23 0", 1 | 1 << 23, x.noise(1, 6));
         CHECK.wrongHouse(x, "roomy 0", 0);
+        CHECK.wrongHouse(x, "roomz 0", 0);
+        CHECK.wrongHouse(x, "rooma 0", 0);
+        CHECK.wrongHouse(x, "boom 0", 0);
+        CHECK.wrongHouse(x, "rook 0", 0);
+        CHECK.wrongHouse(x, "roo 0", 0);
         CHECK.wrongHouse(x, "  Room 0", 2);
         CHECK.wrongHouse(x, "room\t0", 4);
         CHECK.wrongHouse(x, "room \u00e9", 5);

@@ -103,6 +103,10 @@ public final class WillTest {
         CHECK.due("title by the deepest", 1, x.title(0, 0));
         CHECK.due("title by the deepest of a beast", 0, x.title(0, 2));
         CHECK.due("title by the deepest of a foot", 1, x.title(0, 3));
+        CHECK.will(x, "to 0 part 1 if foot or clock and (foot or clock and (foot or clock and (foot or clock and (foot or clock and "
+            + "(foot or clock and (foot or clock and hour + 1 + 2 > hour + 2 + 2))))))", 1);
+        CHECK.due("title by the deepest that does not hold", 0, x.title(0, 0));
+        CHECK.due("title by it of a foot", 1, x.title(0, 3));
     }
 
     private static void lines() {
@@ -177,6 +181,9 @@ public final class WillTest {
         CHECK.due("hears of another", 0, x.title(1, 0));
         CHECK.due("hears of one with 50", 1, x.title(2, 3));
         CHECK.due("hears of one with 50, weather", 0, x.title(2, 1));
+        CHECK.house(x, "heir in 0 ear 1;noise foot in 0 pitch 1 loud 1 worth 1");
+        CHECK.will(x, "to 3 part 1 if hears", 1);
+        CHECK.due("hears the least noise", 1, x.title(3, 4));
         holds(x, "hour > 0", 0, 0, 0, 0);
         x.hours(1);
         CHECK.due("hour > 0, an hour on", 1, x.title(0, 0));
