@@ -129,6 +129,10 @@ public final class QuestionTest {
         CHECK.due("the least of one", 1, x.quiet(0, 55, 1));
         CHECK.due("the fewest of two", 5, x.quiet(0, 35, 1));
         CHECK.due("the fewest, not the least as bits", 12, x.quiet(0, 25, 1));
+        NoiseHouse v = new NoiseHouse();
+        CHECK.house(v, "room 0;noise foot in 0 pitch 1 loud 5 worth 1;noise foot in 0 pitch 1 loud 10 worth 1;"
+            + "noise foot in 0 pitch 1 loud 10 worth 1;noise foot in 0 pitch 1 loud 15 worth 1");
+        CHECK.due("two: 6 is less than 9", 6, v.quiet(0, 20, 1));
         NoiseHouse y = new NoiseHouse();
         CHECK.house(y, "room 0;heir in 0 ear 1;noise clock 1 in 0 pitch 1 loud 10 worth 2;noise clock 1 in 0 pitch 1 loud 10 worth 1;"
             + "noise clock 1 in 0 pitch 1 loud 10 worth 1");

@@ -107,6 +107,10 @@ public final class WillTest {
             + "(foot or clock and (foot or clock and hour + 1 + 2 > hour + 2 + 2))))))", 1);
         CHECK.due("title by the deepest that does not hold", 0, x.title(0, 0));
         CHECK.due("title by it of a foot", 1, x.title(0, 3));
+        CHECK.will(x, "to 0 part 1 if foot or clock and (foot or clock and (foot or clock and (foot or clock and (foot or clock and "
+            + "(foot or clock and (foot or clock and 2 + 1 + 1 > 1 + 1 + 1))))))", 1);
+        CHECK.due("title by the deepest of numbers", 1, x.title(0, 0));
+        CHECK.due("title by it of a beast", 0, x.title(0, 2));
     }
 
     private static void lines() {
