@@ -1,13 +1,51 @@
+import java.io.IOException;
+import java.nio.file.Files;
+import java.nio.file.Path;
 import java.util.function.LongSupplier;
 
 /** Counts the answers that are not as due, and writes texts on the TAPE. */
 final class Check {
-    private final String name;
+    private static final Path DOCUMENT = Path.of("../shared/DOC.md");
+
+    private final String test;
+    private String name;
     private int wrong = 0;
     private int asked = 0;
+    private int sentences = 0;
 
     Check(String name) {
+        this.test = name;
         this.name = name;
+    }
+
+    /** What follows tests these words of the document; they must stand there. */
+    void sentence(String words) {
+        sentences++;
+        name = test + " [" + words + "]";
+        asked++;
+        if (!DOCUMENT_TEXT.isEmpty() && !DOCUMENT_TEXT.contains(words)) {
+            wrong++;
+            System.out.println(name + ": the document does not have these words");
+        }
+    }
+
+    private static final String DOCUMENT_TEXT = document();
+
+    /** Blanks and ends of lines alike; empty where the document is not there. */
+    private static String document() {
+        try {
+            return Files.exists(DOCUMENT) ? Files.readString(DOCUMENT).replaceAll("\\s+", " ") : "";
+        } catch (IOException e) {
+            return "";
+        }
+    }
+
+    void same(String call, String want, String got) {
+        asked++;
+        if (!want.equals(got)) {
+            wrong++;
+            System.out.println(name + ": " + call + " answered\n  " + got + ", due is\n  " + want);
+        }
     }
 
     void due(String call, long want, long got) {
@@ -81,7 +119,9 @@ final class Check {
         for (int at = 0; at < text.length(); at += 20) {
             x.feed(four(text, at), four(text, at + 4), four(text, at + 8), four(text, at + 12), four(text, at + 16));
         }
-        x.end(text.length());
+        if (!x.end(text.length())) {
+            throw new IllegalStateException("a test's text is too long for the TAPE: " + text.length());
+        }
     }
 
     private static int four(String text, int at) {
@@ -93,7 +133,8 @@ final class Check {
     }
 
     void finish() {
-        System.out.println(name + ": " + asked + " answers, " + wrong + " not as due");
+        String told = sentences == 0 ? "" : sentences + " sentences, ";
+        System.out.println(test + ": " + told + asked + " answers, " + wrong + " not as due");
         if (wrong != 0 || asked == 0) {
             System.exit(1);
         }
