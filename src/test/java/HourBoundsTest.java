@@ -56,6 +56,9 @@ public final class HourBoundsTest {
         CHECK.due("the way by another room is one less", 10, y.cost(0, 2));
         y.carpet(1, 2);
         CHECK.due("the way by another room is one more", 11, y.cost(0, 2));
+        NoiseHouse z = new NoiseHouse();
+        CHECK.house(z, "room 4;room 0;room 0;door 1 0 2;door 0 2 3");
+        CHECK.due("by the room of number 0", 2 + 4 + 3, z.cost(1, 2));
     }
 
     private static void atLeastNothing() {
@@ -63,6 +66,7 @@ public final class HourBoundsTest {
         NoiseHouse x = new NoiseHouse();
         CHECK.house(x, "room 2;room 3;room 0;door 0 1 5;noise foot in 0 pitch 1 loud 11 worth 1;noise foot in 0 pitch 1 loud 99 worth 1");
         CHECK.due("one above nothing", 1, x.at(0, 1));
+        CHECK.due("together, from the noise of number 0 on", 9 + 97, x.room(0, 3));
         CHECK.due("without a way", 0, x.at(1, 2));
         x.oil(0, 1);
         CHECK.due("just nothing", 0, x.at(0, 1));
@@ -402,6 +406,9 @@ public final class HourBoundsTest {
         CHECK.due("one pitch 10, the other 1", 10000 * 10 / 11, x.odds(1, 0, 90));
         CHECK.due("one pitch 1, the other 10", 10000 * 10 / 11, x.odds(2, 0, 99));
         CHECK.due("pitches do not go round", 10000, x.odds(3, 0, 0));
+        x.oil(0, 6);
+        CHECK.due("the least weight there is", 10000, x.odds(0, 0, 41));
+        CHECK.due("the likeliest by it", 0, x.likeliest(0, 59));
     }
 
     private static void odds() {

@@ -28,6 +28,7 @@ public final class RefusalTest {
 
     public static void main(String[] args) {
         newObject();
+        lastCall();
         feed();
         end();
         house();
@@ -167,6 +168,25 @@ public final class RefusalTest {
         CHECK.due("each object has its own", -1, y.count(5));
     }
 
+    private static void lastCall() {
+        CHECK.sentence("An object is used for at most 512 calls after it has been made");
+        NoiseHouse x = new NoiseHouse();
+        x.feed(0x726f6f6d, 0x20303b6e, 0x6f697365, 0x20666f6f, 0x7420696e);
+        x.feed(0x20302070, 0x69746368, 0x2031206c, 0x6f756420, 0x3920776f);
+        x.feed(0x72746820, 0x31202020, 0x20202020, 0x20202020, 0x20202020);
+        x.house();
+        for (int call = 5; call <= 508; call += 4) {
+            x.oil(0, 99);
+            x.make(0);
+            x.hours(240);
+            x.image();
+        }
+        CHECK.due("call 509", 126, x.count(12));
+        CHECK.due("call 510", 1260, x.count(6));
+        CHECK.due("call 511", true, x.back());
+        CHECK.due("call 512", 99, x.noise(0, 5));
+    }
+
     private static void feed() {
         CHECK.sentence("Twenty bytes come behind the TAPE, of each number the highest first: how many it has; NONE, and none come, if it would have more than 400.");
         NoiseHouse x = new NoiseHouse();
@@ -270,6 +290,9 @@ public final class RefusalTest {
         CHECK.sentence("3 how loud all NOISES together are AT it. NoSuchElementException: another what.");
         bounds("room(0, ..)", 0, 3, NO_SUCH, (x, n) -> x.room(0, n));
         bounds("room(.., 0)", 0, ROOMS - 1, BOUNDS, (x, n) -> x.room(n, 0));
+        answers("heirs in a room where none sits", 0, x -> x.room(0, 2));
+        answers("heirs in a room where one sits", 1, x -> x.room(1, 2));
+        answers("heirs in the last room", 1, x -> x.room(2, 2));
         CHECK.sentence("3 NOISES that one HEARS, as bits. NoSuchElementException: another what.");
         bounds("heir(0, ..)", 0, 3, NO_SUCH, (x, n) -> x.heir(0, n));
         bounds("heir(.., 0)", 0, HEIRS - 1, BOUNDS, (x, n) -> x.heir(n, 0));
@@ -344,6 +367,9 @@ public final class RefusalTest {
         CHECK.due("one that was made to", false, x.make(FOOT));
         CHECK.due("one that was not", true, x.make(FOOT + 1));
         CHECK.due("both are acts", 5, x.count(13));
+        CHECK.due("both undone", true, x.undo() && x.undo());
+        CHECK.due("the one that was made to ahead of them still is", false, x.make(FOOT));
+        CHECK.due("the other is new again", true, x.make(FOOT + 1));
     }
 
     private static void oil() {

@@ -11,6 +11,7 @@ public final class TextBoundsTest {
         noiseNumbers();
         clockHours();
         beastChance();
+        rates();
         atFirst();
         stormy();
         houseTexts();
@@ -23,6 +24,9 @@ public final class TextBoundsTest {
         willHeirs();
         digits();
         titles();
+        comparisons();
+        sums();
+        hearsTheLeast();
         words();
         blanks();
         emptyTexts();
@@ -153,11 +157,13 @@ public final class TextBoundsTest {
         }
         CHECK.house(x, "noise clock 0 in 0 pitch 1 loud 1 worth 1;noise clock 23 in 0 pitch 1 loud 1 worth 1;"
             + "noise clock 7 7 in 0 pitch 1 loud 1 worth 1");
+        CHECK.house(x, "noise clock 23 0 in 0 pitch 1 loud 1 worth 1");
+        CHECK.due("hour 0 behind another", 1 | 1 << 23, x.noise(3, 6));
         CHECK.house(x, all + " in 0 pitch 1 loud 1 worth 1");
         CHECK.due("hour 0", 1, x.noise(0, 6));
         CHECK.due("hour 23", 1 << 23, x.noise(1, 6));
         CHECK.due("an hour told twice", 1 << 7, x.noise(2, 6));
-        CHECK.due("all hours", (1 << 24) - 1, x.noise(3, 6));
+        CHECK.due("all hours", (1 << 24) - 1, x.noise(4, 6));
         CHECK.wrongHouse(x, "noise clock 24 in 0 pitch 1 loud 1 worth 1", 12);
         CHECK.wrongHouse(x, "noise clock 0 23 24 in 0 pitch 1 loud 1 worth 1", 17);
         CHECK.wrongHouse(x, "noise clock in 0 pitch 1 loud 1 worth 1", 12);
@@ -174,6 +180,27 @@ public final class TextBoundsTest {
         CHECK.wrongHouse(x, "noise beast 1 1 in 0 pitch 1 loud 1 worth 1", 14);
         CHECK.wrongHouse(x, "noise weather 1 in 0 pitch 1 loud 1 worth 1", 14);
         CHECK.wrongHouse(x, "noise foot 1 in 0 pitch 1 loud 1 worth 1", 11);
+    }
+
+    private static void rates() {
+        CHECK.sentence("6 RATE (0 of weather and foot), 7 the latest HOUR in which it SOUNDED (NONE), 8 how often so far.");
+        NoiseHouse x = twoRooms();
+        CHECK.house(x, "stormy 100;noise weather in 0 pitch 1 loud 1 worth 1;noise foot in 0 pitch 1 loud 1 worth 1;"
+            + "noise beast 0 in 0 pitch 1 loud 1 worth 1;noise clock 1 in 0 pitch 1 loud 1 worth 1");
+        int[] due = {0, 0, 0, 2};
+        for (int noise = 0; noise < 4; noise++) {
+            CHECK.due("rate of " + noise, due[noise], x.noise(noise, 6));
+            CHECK.due("none yet of " + noise, -1, x.noise(noise, 7));
+            CHECK.due("not once so far of " + noise, 0, x.noise(noise, 8));
+        }
+        x.make(1);
+        x.hours(1);
+        int[] latest = {0, 0, -1, -1};
+        for (int noise = 0; noise < 4; noise++) {
+            CHECK.due("rate of " + noise + " behind an hour", due[noise], x.noise(noise, 6));
+            CHECK.due("the latest of " + noise, latest[noise], x.noise(noise, 7));
+            CHECK.due("how often " + noise, latest[noise] + 1, x.noise(noise, 8));
+        }
     }
 
     private static void atFirst() {
@@ -364,6 +391,76 @@ public final class TextBoundsTest {
         CHECK.due("none that holds", 0, x.title(0, 0));
     }
 
+    /** Whether the condition holds for HEIR 0 and this NOISE. */
+    private static void holds(NoiseHouse x, int noise, String condition, boolean due) {
+        CHECK.will(x, "to 0 part 1 if " + condition, 1);
+        CHECK.due(condition + " of " + noise, due ? 1 : 0, x.title(0, noise));
+    }
+
+    private static NoiseHouse compared() {
+        NoiseHouse x = new NoiseHouse();
+        CHECK.house(x, "room 0;".repeat(9) + "room 0;heir in 0 ear 1");
+        CHECK.house(x, "noise foot in 0 pitch 0 loud 1 worth 1;noise foot in 9 pitch 99 loud 99 worth 1");
+        return x;
+    }
+
+    private static void comparisons() {
+        CHECK.sentence("SUM < SUM | SUM > SUM.");
+        NoiseHouse x = compared();
+        holds(x, 0, "5 < 6", true);
+        holds(x, 0, "6 < 6", false);
+        holds(x, 0, "7 < 6", false);
+        holds(x, 0, "7 > 6", true);
+        holds(x, 0, "6 > 6", false);
+        holds(x, 0, "5 > 6", false);
+        holds(x, 0, "0 < 0", false);
+        holds(x, 0, "0 > 0", false);
+        holds(x, 0, "foot and 0 < 1", true);
+        holds(x, 0, "foot and 1 > 0 and 0 < 1", true);
+        holds(x, 0, "foot and 5 < 0", false);
+        holds(x, 0, "999 > 998", true);
+        holds(x, 0, "not 6 < 6 and not 6 > 6", true);
+    }
+
+    private static void sums() {
+        CHECK.sentence("SUM: PART { + PART }; PART: NUMBER | pitch | loud | hour | room | noise | oil.");
+        String most = "999" + "+999".repeat(80);
+        NoiseHouse x = compared();
+        holds(x, 0, most + "<1", false);
+        holds(x, 0, "1 + 2 + 3 > 5", true);
+        holds(x, 0, "1 + 2 + 3 > 6", false);
+        holds(x, 0, "6 < 1 + 2 + 3", false);
+        holds(x, 0, "pitch + room + noise + oil + hour < 1", true);
+        holds(x, 0, "loud > 0 and loud < 2", true);
+        holds(x, 1, "pitch > 98 and pitch < 100", true);
+        holds(x, 1, "loud > 98 and loud < 100", true);
+        holds(x, 1, "room > 8 and room < 10", true);
+        holds(x, 1, "noise > 0 and noise < 2", true);
+        x.oil(1, 99);
+        holds(x, 1, "oil > 98 and oil < 100", true);
+        holds(x, 1, "loud > 98", true);
+        holds(x, 1, "99 < 1 + oil", true);
+        holds(x, 1, "100 < 1 + oil", false);
+        holds(x, 1, "foot and oil + oil > 197", true);
+        holds(x, 1, "foot and oil + oil > 198", false);
+        x.hours(23);
+        holds(x, 1, "hour > 22 and hour < 24", true);
+        x.hours(1);
+        holds(x, 1, "hour < 1", true);
+    }
+
+    private static void hearsTheLeast() {
+        CHECK.sentence("hears: that HEIR HEARS it.");
+        NoiseHouse x = compared();
+        holds(x, 0, "hears", true);
+        holds(x, 1, "hears", false);
+        holds(x, 0, "hears and foot", true);
+        holds(x, 0, "not hears", false);
+        holds(x, 1, "not hears and foot", true);
+        x.oil(0, 1);
+        holds(x, 0, "hears", false);
+    }
+
     private static void words() {
         CHECK.sentence("Words are as long as a to z go on");
         NoiseHouse x = twoRooms();
@@ -373,6 +470,8 @@ public final class TextBoundsTest {
         CHECK.wrongHouse(x, "stormya 0", 0);
         CHECK.wrongHouse(x, "stormyz 0", 0);
         CHECK.wrongHouse(x, "storm 0", 0);
+        CHECK.wrongHouse(x, "boom 0", 0);
+        CHECK.wrongHouse(x, "rook 0", 0);
         CHECK.wrongHouse(x, "stormy`0", 6);
         CHECK.wrongHouse(x, "stormy{0", 6);
         CHECK.wrongHouse(x, "stormyA0", 6);
@@ -453,6 +552,13 @@ public final class TextBoundsTest {
         CHECK.due("seven not beside one another", 1, x.title(0, 0));
         CHECK.will(x, "to 0 part 1 if ((((((foot)))))) and ((((((foot))))));to 0 part 2 if not not not not not not foot", 2);
         CHECK.due("six deep again and again", 3, x.title(0, 0));
+        String deep = "beast or foot and (".repeat(6) + "beast or foot and ";
+        CHECK.will(x, "to 0 part 1 if " + deep + "hour + 1 + 1 < 1 + 1 + 1" + ")".repeat(6), 1);
+        CHECK.due("the most that waits", 1, x.title(0, 0));
+        CHECK.will(x, "to 0 part 1 if " + deep + "hour + 1 + 1 > 1 + 1 + 1" + ")".repeat(6), 1);
+        CHECK.due("the most that waits, in vain", 0, x.title(0, 0));
+        CHECK.will(x, "to 0 part 1 if not foot;to 0 part 2 if not not foot;to 0 part 4 if not not not clock", 3);
+        CHECK.due("one, two, three", 6, x.title(0, 0));
     }
 
     private static void firstWrongNumber() {

@@ -1,6 +1,7 @@
 /** Each sentence from WINTER to THE IMAGE that names a bound, with a test of its own. */
 public final class WinterBoundsTest {
     private static final Check CHECK = new Check("WinterBoundsTest");
+    private static final int CLOCK = 0;
     private static final String ALL_HOURS = "0 1 2 3 4 5 6 7 8 9 10 11 12 13 14 15 16 17 18 19 20 21 22 23";
 
     public static void main(String[] args) {
@@ -18,11 +19,13 @@ public final class WinterBoundsTest {
         ghostFirst();
         breach();
         silenceAbove();
+        silenceSteps();
         silenceRounds();
         silenceTooLong();
         ears();
         seatTies();
         seatRounded();
+        seatOfADay();
         value();
         sale();
         twelveActs();
@@ -126,6 +129,10 @@ public final class WinterBoundsTest {
         CHECK.due("5 more with the foot, not 10 without it", 17, x.quiet(0, 50, 1));
         CHECK.due("20 more: two of 10, not one and two of 5", 12, x.quiet(0, 25, 1));
         CHECK.due("15 more: 10 and 5, the least", 5, x.quiet(0, 35, 1));
+        NoiseHouse y = new NoiseHouse();
+        CHECK.house(y, "room 0;noise foot in 0 pitch 1 loud 5 worth 1;noise foot in 0 pitch 1 loud 10 worth 1;"
+            + "noise foot in 0 pitch 1 loud 10 worth 1;noise foot in 0 pitch 1 loud 15 worth 1");
+        CHECK.due("1 and 2 are less as bits than 0 and 3", 6, y.quiet(0, 20, 1));
     }
 
     private static void suspectsAll() {
@@ -161,6 +168,13 @@ public final class WinterBoundsTest {
         CHECK.due("an hour ahead of the next sounding", 7, x.suspects(0));
         x.hours(1);
         CHECK.due("from the latest on alone", 4, x.suspects(0));
+        NoiseHouse y = new NoiseHouse();
+        CHECK.house(y, "room 0;room 0;room 0;room 0;door 1 0 1;door 1 2 1;door 3 2 1;heir in 0 ear 1;heir in 1 ear 1;heir in 2 ear 1;heir in 3 ear 1;"
+            + "noise clock 0 in 1 pitch 1 loud 1 worth 1;noise clock 0 in 3 pitch 1 loud 1 worth 1;noise clock 0 in 0 pitch 1 loud 1 worth 1");
+        y.hours(1);
+        CHECK.due("doors told from either side", 7, y.suspects(0));
+        CHECK.due("the last room", 12, y.suspects(1));
+        CHECK.due("the first room", 3, y.suspects(2));
     }
 
     private static void suspectsOfForty() {
@@ -192,6 +206,14 @@ public final class WinterBoundsTest {
         CHECK.due("one who was not there by then", 0, y.suspects(0));
         y.hours(1);
         CHECK.due("an hour on", 1, y.suspects(0));
+        NoiseHouse z = new NoiseHouse();
+        CHECK.house(z, "room 0;room 0;noise clock 1 in 0 pitch 1 loud 9 worth 1;heir in 0 ear 1");
+        z.hours(1);
+        z.go(0, 1);
+        for (int hour = 2; hour <= 90; hour++) {
+            z.hours(1);
+            CHECK.due("who was there ahead of the sounding alone, behind " + hour + " hours", 0, z.suspects(0));
+        }
     }
 
     /** ghost(what) of these bytes: a ROOM, how loud, a ROOM, how loud .. */
@@ -278,6 +300,9 @@ public final class WinterBoundsTest {
         CHECK.due("not just heard", 24 * 10 * 5, x.breach(0, 12));
         CHECK.due("the greatest: just heard", 24 * 10 * 5, x.breach(0, 20));
         CHECK.due("in the other room", 7000, x.breach(1, 1));
+        x.oil(CLOCK, 1);
+        CHECK.due("both that are in it", 24 * 10 * 5 + 3000, x.breach(0, 20));
+        x.undo();
         x.carpet(0, 20);
         CHECK.due("below 0", -24 * 10 * 5, x.breach(0, 0));
         CHECK.due("the carpet stays", 20, x.room(0, 0));
@@ -301,6 +326,19 @@ public final class WinterBoundsTest {
         CHECK.house(y, "room 0");
         CHECK.due("without noises", 0, y.silence(0, 1, 1, false));
         CHECK.due("without noises, paid", 0, y.silence(0, 1, 1, true));
+    }
+
+    private static void silenceSteps() {
+        CHECK.sentence("SILENCE that a tenant buys in a ROOM for N DAYS by STEP (1 to 999)");
+        NoiseHouse x = new NoiseHouse();
+        CHECK.house(x, "room 0;heir in 0 ear 1;noise clock 0 in 0 pitch 1 loud 9 worth 20");
+        CHECK.due("by 1", 2000, x.silence(0, 1, 1, false));
+        CHECK.due("by 999", 3, x.silence(0, 1, 999, false));
+        CHECK.due("by 999, paid", 2997, x.silence(0, 1, 999, true));
+        for (int step : new int[] {0, -1, 1000, Integer.MIN_VALUE, Integer.MAX_VALUE}) {
+            CHECK.illegal("by " + step, () -> x.silence(0, 1, step, false));
+            CHECK.illegal("by " + step + ", paid", () -> x.silence(0, 1, step, true));
+        }
     }
 
     private static void silenceRounds() {
@@ -392,6 +430,16 @@ public final class WinterBoundsTest {
         CHECK.due("titles of now, where it is heard", 1, x.seat(0));
     }
 
+    private static void seatOfADay() {
+        CHECK.sentence("WINTER for 1 DAY times WORTH times TITLE by all TITLES");
+        NoiseHouse x = new NoiseHouse();
+        String beast = ";noise beast 1 in 1 pitch 1 loud 9 worth 1";
+        CHECK.house(x, "room 0;room 0;heir in 0 ear 9;heir in 0 ear 9;noise clock 0 in 0 pitch 1 loud 9 worth 1" + beast.repeat(5));
+        CHECK.will(x, "to 0 part 41 if beast;to 1 part 7 if beast;to 0 part 1 if clock", 3);
+        // a day: 24 times 41 by 48 is 20.5, five of 20 are the clock's 100; of two days they were 205 to 200
+        CHECK.due("rounded for a day", 0, x.seat(0));
+    }
+
     private static void value() {
         CHECK.sentence("VALUE of an HEIR: what one gets of DUE for 100 DAYS of each NOISE, PARTED.");
         NoiseHouse x = new NoiseHouse();
@@ -429,6 +477,9 @@ public final class WinterBoundsTest {
         CHECK.will(x, "to 1 part 1;to 2 part 2;to 0 part 1", 3);
         CHECK.due("the greatest", 2, x.sale(false));
         CHECK.due("the sum of the others", 5000, x.sale(true));
+        CHECK.will(x, "to 1 part 3;to 2 part 2;to 0 part 5", 3);
+        CHECK.due("the first is the greatest", 0, x.sale(false));
+        CHECK.due("the sum of the lesser", 5000, x.sale(true));
         CHECK.due("told, not done", 0, x.heir(1, 2) + x.heir(2, 2) + x.count(11));
     }
 
