@@ -192,6 +192,9 @@ public final class FullHouseTest {
 
     private static void actsAndImage() {
         NoiseHouse x = full();
+        CHECK.illegal("make of the last noise, a beast", () -> x.make(11) ? 1 : 0);
+        CHECK.outOfBounds("make of a thirteenth", () -> x.make(12) ? 1 : 0);
+        CHECK.due("seed", 1, x.seed(7));
         x.image();
         for (int noise = 0; noise < 12; noise++) {
             CHECK.due("oil", 99, x.oil(noise, 99));
@@ -216,6 +219,7 @@ public final class FullHouseTest {
             CHECK.due("count(" + what + ") of the image", due[what], x.count(what));
         }
         CHECK.due("oil of the image", 0, x.noise(0, 5));
+        CHECK.due("seed of the image", 7, x.seed(7));
         CHECK.due("the last title of the image", 3, x.title(5, 11));
         CHECK.due("the last noise of the image", -1, x.noise(11, 7));
         CHECK.due("the last heir of the image", 0, x.heir(5, 2));
