@@ -897,13 +897,18 @@ public final class NoiseHouse {
             for (int heir = 0; heir < heirCount; heir++) {
                 seats |= 1L << heirs[heir].room * MOST_HEIRS + heir;
             }
-            past[time % MOST_PAST] = seats;
+            past[slotOf(time)] = seats;
+        }
+
+        /** No HOUR, however many went by, tells a slot that is not there. */
+        private static int slotOf(int hour) {
+            return Math.floorMod(hour, MOST_PAST);
         }
 
         int satSince(int since, int room) {
             long seats = 0;
             for (int hour = Math.max(since, time - MOST_PAST); hour < time; hour++) {
-                seats |= past[hour % MOST_PAST];
+                seats |= past[slotOf(hour)];
             }
             return (int) (seats >> room * MOST_HEIRS) & (1 << MOST_HEIRS) - 1;
         }

@@ -1,16 +1,20 @@
 import java.util.Random;
 import java.util.function.LongSupplier;
 
-/** Long runs of made-up calls, each answer compared with the one of Slow; all promises. */
+/** Runs of made-up calls, up to the 512 of an object, each answer compared with the one of Slow; all promises. */
 public final class RandomTest {
-    private static final int RUNS = 1500;
-    private static final int CALLS = 200;
+    private static final int RUNS = 5000;
+    private static final int MOST_CALLS = 512;
+    /** No step of a run makes more calls than this, but for a look at all. */
+    private static final int MOST_OF_A_STEP = 80;
+    private static final int MOST_OF_A_LOOK = 16 + 10 * 4 + 6 * 4 + 12 * 9;
 
     private final NoiseHouse fast = new NoiseHouse();
     private final Slow slow = new Slow();
     private final Random random;
     private final Texts texts;
     private final StringBuilder log = new StringBuilder();
+    private int calls = 0;
     private static final int[] ANSWERED = new int[60];
     private static final int[] THROWN = new int[60];
 
@@ -37,7 +41,7 @@ public final class RandomTest {
                 System.exit(1);
             }
         }
-        System.out.println("RandomTest: " + runs + " runs of " + CALLS + " calls, all as Slow answers");
+        System.out.println("RandomTest: " + runs + " runs, all as Slow answers");
     }
 
     private static String answer(LongSupplier ask) {
@@ -49,6 +53,7 @@ public final class RandomTest {
     }
 
     private boolean same(int kind, String call, LongSupplier a, LongSupplier b) {
+        calls++;
         String got = answer(a);
         String want = answer(b);
         log.append(call).append(" -> ").append(got).append('\n');
@@ -66,24 +71,24 @@ public final class RandomTest {
 
     private boolean run() {
         boolean fits = true;
-        for (int text = random.nextInt(7); text >= 0 && fits; text--) {
+        for (int text = random.nextInt(6); text >= 0 && fits; text--) {
             fits = houseText();
         }
         fits = fits && willText();
-        for (int call = 0; call < CALLS && fits; call++) {
-            int kind = random.nextInt(KINDS);
-            fits = call(kind) && same(KINDS, "fault", fast::fault, () -> slow.fault);
-            if (!books()) {
-                log.append("the BOOKS do not add up\n");
-                fits = false;
-            }
+        int last = random.nextInt(3) == 0 ? MOST_OF_A_LOOK : 0;
+        while (fits && calls + MOST_OF_A_STEP + last <= MOST_CALLS) {
+            fits = call(random.nextInt(KINDS)) && books();
         }
-        return fits && all();
+        fits = fits && (last == 0 || all());
+        if (calls > MOST_CALLS) {
+            log.append("the object was asked ").append(calls).append(" calls\n");
+        }
+        return fits && calls <= MOST_CALLS;
     }
 
     private boolean houseText() {
         write(random.nextInt(30) == 0 ? texts.will() : houseOfNow());
-        return same(0, "house", fast::house, slow::house);
+        return same(0, "house", fast::house, slow::house) && fault();
     }
 
     private String houseOfNow() {
@@ -92,34 +97,53 @@ public final class RandomTest {
 
     private boolean willText() {
         write(random.nextInt(30) == 0 ? houseOfNow() : texts.will());
-        return same(1, "will", fast::will, slow::will);
+        return same(1, "will", fast::will, slow::will) && fault();
+    }
+
+    private boolean fault() {
+        return same(KINDS, "fault", fast::fault, () -> slow.fault);
     }
 
     private void write(String text) {
         Check.write(fast, text);
+        calls += 2 + (text.length() + 19) / 20;
         slow.tape = text;
         log.append(text).append('\n');
     }
 
+    /** Now and then: whether the BOOKS add up. */
     private boolean books() {
+        if (random.nextInt(8) != 0) {
+            return true;
+        }
         int sum = fast.count(10);
-        for (int heir = 0; heir < fast.count(2); heir++) {
+        for (int heir = 0; heir < slow.s.heirs.size(); heir++) {
             sum += fast.heir(heir, 2);
         }
-        return sum == fast.count(11);
+        calls += 2 + slow.s.heirs.size();
+        boolean fits = sum == fast.count(11);
+        log.append(fits ? "" : "the BOOKS do not add up\n");
+        return fits;
     }
 
     /** Everything that can be looked at. */
     private boolean all() {
         boolean fits = true;
-        for (int what = -1; what < 16 && fits; what++) {
+        for (int what = -1; what < 15 && fits; what++) {
             int w = what;
             fits = same(KINDS, "count " + w, () -> fast.count(w), () -> slow.count(w));
-            for (int i = -1; i < 13 && fits; i++) {
-                int k = i;
-                fits = same(KINDS, "room " + k + " " + w, () -> fast.room(k, w), () -> slow.room(k, w))
-                    && same(KINDS, "heir " + k + " " + w, () -> fast.heir(k, w), () -> slow.heir(k, w))
-                    && same(KINDS, "noise " + k + " " + w, () -> fast.noise(k, w), () -> slow.noise(k, w));
+        }
+        for (int at = 0; at < 12 * 9 && fits; at++) {
+            int one = at / 9;
+            int what = at % 9;
+            if (one < slow.s.noises.size()) {
+                fits = same(KINDS, "noise " + one + " " + what, () -> fast.noise(one, what), () -> slow.noise(one, what));
+            }
+            if (fits && one < slow.s.rooms.size() && what < 4) {
+                fits = same(KINDS, "room " + one + " " + what, () -> fast.room(one, what), () -> slow.room(one, what));
+            }
+            if (fits && one < slow.s.heirs.size() && what < 4) {
+                fits = same(KINDS, "heir " + one + " " + what, () -> fast.heir(one, what), () -> slow.heir(one, what));
             }
         }
         return fits;
@@ -230,6 +254,7 @@ public final class RandomTest {
             case 28:
                 if (random.nextInt(3) == 0) {
                     fast.image();
+                    calls++;
                     slow.image();
                     log.append("image\n");
                 }
@@ -272,7 +297,8 @@ public final class RandomTest {
         for (int less = random.nextInt(20); less >= 0 && fits; less--) {
             fits = same(kind, "undo", () -> fast.undo() ? 1 : 0, () -> slow.undo() ? 1 : 0);
         }
-        return fits && (random.nextInt(4) != 0 || all());
+        boolean looks = calls + 2 * MOST_OF_A_LOOK + MOST_OF_A_STEP <= MOST_CALLS && random.nextInt(4) == 0;
+        return fits && (!looks || all());
     }
 
     /** Mostly what a ghost somewhere would be heard like, sometimes spoilt. */

@@ -23,12 +23,31 @@ public final class RuleTest {
         "long breach(int,int)", "long silence(int,int,int,boolean)", "int ears(int,int)", "int seat(int)",
         "long value(int)", "long sale(boolean)", "int seed(int)", "void image()", "boolean back()", "int count(int)");
 
-    public static void main(String[] args) throws IOException {
+    public static void main(String[] args) throws IOException, ReflectiveOperationException {
+        farHours();
         face();
         names();
         sizes();
         source(Files.readString(Path.of("src/main/java/NoiseHouse.java")));
         CHECK.finish();
+    }
+
+    /** Rule 7 knows no last call: where HOURS go round as an int nothing may throw by itself. */
+    private static void farHours() throws ReflectiveOperationException {
+        for (int hour : new int[] {Integer.MAX_VALUE - 2, Integer.MIN_VALUE, Integer.MIN_VALUE + 39, -45, -1}) {
+            NoiseHouse x = new NoiseHouse();
+            Check.write(x, "room 0;heir in 0 ear 1;noise beast 100 in 0 pitch 1 loud 9 worth 1;noise clock 0 23 in 0 pitch 1 loud 9 worth 1");
+            x.house();
+            Field state = NoiseHouse.class.getDeclaredField("now");
+            state.setAccessible(true);
+            Field time = state.getType().getDeclaredField("time");
+            time.setAccessible(true);
+            time.setInt(state.get(x), hour);
+            for (int more = 0; more < 3; more++) {
+                holds("hours from " + hour, x.hours(50) >= 50);
+                holds("suspects from " + hour, x.suspects(0) >= 0 && x.suspects(1) >= 0);
+            }
+        }
     }
 
     private static void face() {

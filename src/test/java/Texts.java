@@ -72,7 +72,7 @@ final class Texts {
         }
     }
 
-    private String sort() {
+    String sort() {
         StringBuilder sort = new StringBuilder(pick("clock", "weather", "beast", "foot"));
         if (sort.toString().equals("beast")) {
             sort.append(' ').append(below(101));
